@@ -1,0 +1,236 @@
+/** Promises 27 to 32: a drop in deed, what is led, an image. */
+public final class DeedTest {
+    private static final Due DUE = new Due("DeedTest");
+
+    public static void main(String[] args) {
+        begin();
+        go();
+        against();
+        whoMeets();
+        over();
+        ledAtFirst();
+        farthest();
+        now();
+        image();
+        imageOfEarlier();
+        DUE.end();
+    }
+
+    /** Carried by ten times a skill of 0, 5, 9; ten yards a second. */
+    private static OutByTurns three() {
+        OutByTurns x = new OutByTurns();
+        x.jumper(5, 0);
+        x.jumper(5, 5);
+        x.jumper(5, 9);
+        Due.law(x, "s*10");
+        x.mend(0, 7, 10);
+        return x;
+    }
+
+    private static void led(String what, OutByTurns x, int... due) {
+        for (int i = 0; i < due.length; i++) {
+            DUE.is(what + ", led(" + i + ")", x.led(i), due[i]);
+        }
+    }
+
+    private static void begin() {
+        OutByTurns x = three();
+        DUE.is("begin(-1000)", x.begin(-1000), Due.NONE);
+        DUE.is("begin(1000)", x.begin(1000), Due.NONE);
+        DUE.is("no drop by these", x.led(5), Due.NONE);
+        DUE.is("begin(-999)", x.begin(-999), -999);
+        DUE.is("a drop is on", x.begin(0), Due.NONE);
+        DUE.is("it goes on where it was", x.led(5), -999);
+        DUE.is("over()", x.over(), 0);
+        DUE.is("begin(999)", x.begin(999), 999);
+    }
+
+    private static void go() {
+        OutByTurns x = three();
+        DUE.is("no drop is on", x.go(0, 0), Due.NONE);
+        x.begin(100);
+        DUE.is("at once", x.go(1, 0), 150);
+        DUE.is("has gone", x.go(1, 0), Due.NONE);
+        DUE.is("jumper -1", x.go(-1, 0), Due.NONE);
+        DUE.is("jumper 3", x.go(3, 0), Due.NONE);
+        DUE.is("n -1", x.go(0, -1), Due.NONE);
+        DUE.is("n 21", x.go(0, 21), Due.NONE);
+        DUE.is("none of these went", x.led(1), 1);
+        DUE.is("20 seconds on", x.go(0, 20), 300);
+        DUE.is("and 3", x.go(2, 3), 100 + 230 + 90);
+        x.over();
+        DUE.is("over, none goes", x.go(0, 0), Due.NONE);
+        x.begin(0);
+        DUE.is("in the next drop it may", x.go(1, 2), 70);
+        x.mend(0, 7, 20);
+        x.mend(1, 1, 0);
+        DUE.is("by the speed that is", x.go(2, 2), 20 + 40 + 90);
+        DUE.is("one who comes meanwhile", x.jumper(5, 1), 3);
+        DUE.is("may go", x.go(3, 0), 60 + 10);
+    }
+
+    private static void against() {
+        OutByTurns x = three();
+        x.mend(0, 11, 1);
+        x.begin(50);
+        DUE.is("against", x.go(0, 4), 10);
+        DUE.is("farther against", x.go(1, 5), 10 - 50 + 50);
+        DUE.is("now", x.led(5), -40);
+        x.mend(0, 11, 0);
+        DUE.is("run in as it was at the beginning", x.go(2, 1), -50 + 90);
+        x.over();
+        x.begin(50);
+        DUE.is("upward the next time", x.go(0, 4), 90);
+    }
+
+    private static void whoMeets() {
+        OutByTurns x = three();
+        x.begin(0);
+        x.go(2, 20);
+        x.go(1, 4);
+        x.go(0, 5);
+        // 290, 290, 290: 4 and 5 seconds between.
+        DUE.is("two meet, one is GOOD", x.over(), 1);
+        x.begin(0);
+        x.go(2, 0);
+        x.go(0, 2);
+        x.go(1, 2);
+        // 90, 20, 90: 4 seconds between the first and the last.
+        DUE.is("the first and the last meet", x.over(), 1);
+        x.begin(0);
+        x.go(2, 0);
+        x.go(0, 2);
+        x.go(1, 3);
+        DUE.is("5 seconds between", x.over(), 3);
+        x.begin(0);
+        x.go(1, 0);
+        x.go(0, 4);
+        DUE.is("10 yards", x.over(), 0);
+        x.mend(0, 7, 9);
+        x.begin(0);
+        x.go(1, 0);
+        x.go(0, 4);
+        DUE.is("14 yards", x.over(), 2);
+        led("five drops", x, 5, 13, 7);
+    }
+
+    private static void over() {
+        OutByTurns x = three();
+        DUE.is("no drop is on", x.over(), OutByTurns.STATE);
+        x.begin(0);
+        DUE.is("nobody went", x.over(), 0);
+        DUE.is("it is over", x.over(), OutByTurns.STATE);
+        x.begin(-99);
+        x.go(0, 0);
+        x.go(1, 20);
+        DUE.is("two on the field", x.over(), 2);
+        x.begin(-100);
+        x.go(0, 0);
+        DUE.is("one off it", x.over(), 0);
+        x.mend(0, 6, 105);
+        x.begin(100);
+        x.go(0, 0);
+        x.go(1, 20);
+        DUE.is("one in the wire, one off", x.over(), 0);
+        led("four drops", x, 4, 5, 2);
+        DUE.is("begun is not led yet", x.begin(0), 0);
+        led("while the fifth is on", x, 4, 5, 2);
+    }
+
+    private static void ledAtFirst() {
+        OutByTurns x = three();
+        led("at first", x, 0, 0, 0, 0, OutByTurns.NOT, Due.NONE);
+        DUE.is("led(-1)", x.led(-1), Due.NONE);
+        DUE.is("led(6)", x.led(6), Due.NONE);
+        x.begin(5);
+        led("begun", x, 0, 0, 0, 0, OutByTurns.NOT, 5);
+    }
+
+    private static void farthest() {
+        OutByTurns x = three();
+        x.begin(100);
+        x.go(0, 0);
+        led("in the middle of -99 and 300", x, 0, 1, 0, 0, 0, 100);
+        x.go(1, 5);
+        led("100 yards off", x, 0, 2, 0, 100, 1, 150);
+        x.over();
+        x.begin(0);
+        x.go(0, 0);
+        led("as far, below: the first such", x, 1, 3, 2, 100, 1, 0);
+        x.over();
+        x.begin(-1);
+        x.go(0, 0);
+        led("101 yards below", x, 2, 4, 3, 101, 0, -1);
+        x.mend(0, 4, 300);
+        led("as it was led", x, 2, 4, 3, 101, 0, -1);
+        x.go(1, 0);
+        led("from the new middle", x, 2, 5, 3, 251, 1, -1);
+    }
+
+    private static void now() {
+        OutByTurns x = three();
+        x.begin(-10);
+        DUE.is("where it begins", x.led(5), -10);
+        x.go(0, 7);
+        DUE.is("70 yards on", x.led(5), 60);
+        x.go(2, 0);
+        DUE.is("at once", x.led(5), 60);
+        x.over();
+        DUE.is("no drop is on", x.led(5), Due.NONE);
+        x.begin(3);
+        DUE.is("anew", x.led(5), 3);
+    }
+
+    private static void image() {
+        OutByTurns x = three();
+        DUE.is("no image", x.back(), OutByTurns.STATE);
+        x.begin(0);
+        x.over();
+        x.mend(0, 11, 1);
+        x.begin(100);
+        x.go(0, 0);
+        x.go(1, 4);
+        DUE.is("image()", x.image(), 1);
+        x.mend(0, 11, 0);
+        x.go(2, 2);
+        x.over();
+        x.begin(7);
+        DUE.is("back()", x.back(), 1);
+        led("as it was", x, 1, 2, 0, 10, 1, 60);
+        DUE.is("who went has gone", x.go(1, 0), Due.NONE);
+        DUE.is("who had not may go, run in as it was", x.go(2, 0), 150);
+        DUE.is("those ahead met by 4 seconds and 10 yards", x.over(), 1);
+        led("over", x, 2, 3, 1, 50, 2, Due.NONE);
+        DUE.is("back() again", x.back(), 1);
+        led("as it was again", x, 1, 2, 0, 10, 1, 60);
+        DUE.is("RUN IN is none of it", x.of(0, 11), 0);
+        DUE.is("nor are changes", x.count(2), 3);
+    }
+
+    private static void imageOfEarlier() {
+        OutByTurns x = three();
+        DUE.is("image() at first", x.image(), 0);
+        x.begin(0);
+        x.go(2, 4);
+        DUE.is("back() to it", x.back(), 0);
+        led("at first", x, 0, 0, 0, 0, OutByTurns.NOT, Due.NONE);
+        DUE.is("no drop is on", x.over(), OutByTurns.STATE);
+        x.begin(0);
+        x.go(2, 0);
+        x.image();
+        x.go(1, 4);
+        x.over();
+        x.begin(3);
+        x.go(1, 0);
+        x.go(0, 1);
+        x.back();
+        DUE.is("who went after the image has not gone", x.go(1, 4), 90);
+        DUE.is("and meets the one ahead", x.over(), 0);
+        x.begin(0);
+        x.over();
+        DUE.is("a later image", x.image(), 2);
+        x.begin(0);
+        x.over();
+        DUE.is("back to the later one", x.back(), 2);
+    }
+}
