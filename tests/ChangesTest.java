@@ -8,6 +8,7 @@ public final class ChangesTest {
         whatIsNone();
         noOtherBehind();
         forty();
+        fortyOfSeveral();
         besideDeeds();
         DUE.end();
     }
@@ -123,6 +124,27 @@ public final class ChangesTest {
         DUE.is("no more", x.redo(), OutByTurns.STATE);
         DUE.is("TO at last", x.of(0, 5), 341);
         DUE.is("the wire at last", x.of(0, 6), 5);
+    }
+
+    private static void fortyOfSeveral() {
+        OutByTurns x = new OutByTurns();
+        x.jumper(5, 3);
+        x.jumper(6, 4);
+        // The first of the two is forgotten, and each number behind it moves up one place.
+        x.mend(0, 8, 1);
+        for (int v = 1; v <= 20; v++) {
+            x.mend(1, 3, v % 2 == 0 ? 2 : 1);
+            x.mend(0, 0, v % 2 == 0 ? 5 : 4);
+        }
+        DUE.is("40 at most", x.count(2), 40);
+        for (int v = 20; v >= 1; v--) {
+            x.undo();
+            DUE.is("the first one's weight", x.of(0, 0), v % 2 == 0 ? 4 : 5);
+            x.undo();
+            DUE.is("the second one's sticks", x.of(1, 3), v == 1 ? 0 : v % 2 == 0 ? 1 : 2);
+        }
+        DUE.is("no more", x.undo(), OutByTurns.STATE);
+        DUE.is("the wind is not undone", x.of(0, 8), 1);
     }
 
     private static void besideDeeds() {

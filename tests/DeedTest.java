@@ -13,6 +13,7 @@ public final class DeedTest {
         now();
         image();
         imageOfEarlier();
+        imageOfWhoMeets();
         DUE.end();
     }
 
@@ -198,13 +199,40 @@ public final class DeedTest {
         DUE.is("back()", x.back(), 1);
         led("as it was", x, 1, 2, 0, 10, 1, 60);
         DUE.is("who went has gone", x.go(1, 0), Due.NONE);
-        DUE.is("who had not may go, run in as it was", x.go(2, 0), 150);
+        DUE.is("who had not may go, run in as it was", x.go(2, 2), 40 + 90);
         DUE.is("those ahead met by 4 seconds and 10 yards", x.over(), 1);
-        led("over", x, 2, 3, 1, 50, 2, Due.NONE);
+        led("over", x, 2, 3, 1, 30, 2, Due.NONE);
         DUE.is("back() again", x.back(), 1);
         led("as it was again", x, 1, 2, 0, 10, 1, 60);
         DUE.is("RUN IN is none of it", x.of(0, 11), 0);
         DUE.is("nor are changes", x.count(2), 3);
+    }
+
+    private static void imageOfWhoMeets() {
+        OutByTurns x = three();
+        x.begin(0);
+        x.go(2, 5);
+        x.image();
+        x.over();
+        x.begin(0);
+        x.go(0, 20);
+        x.go(1, 2);
+        x.over();
+        x.back();
+        x.go(1, 4);
+        // 140 and 140, 4 seconds apart; those of the later drop went at 20 and 22 seconds.
+        DUE.is("by the seconds of the image", x.over(), 0);
+        x.begin(0);
+        x.go(2, 0);
+        x.go(1, 4);
+        DUE.is("image of two who met", x.image(), 1);
+        x.over();
+        x.begin(0);
+        x.go(0, 0);
+        x.go(1, 20);
+        x.over();
+        x.back();
+        DUE.is("they have met", x.over(), 0);
     }
 
     private static void imageOfEarlier() {

@@ -67,6 +67,10 @@ public final class JumpersTest {
         DUE.is("behind the row's end", x.jumpers(2, 12, 1), 0);
         DUE.is("far behind it", x.jumpers(2, Integer.MAX_VALUE, 7), 0);
         DUE.is("all three", x.count(0), 3);
+        OutByTurns y = new OutByTurns();
+        Due.order(y, 0, 1, 2, 0, 3, 4, 1);
+        DUE.is("the row ends behind a three", y.jumpers(0, 0, 7), 2);
+        DUE.is("the last one's skill", y.of(1, 1), 4);
         Due.order(x, 3, 5, 3, 0, 5, 3, 1, 5, 3, 0, 5, 3, 0, 5, 3, 0);
         DUE.is("until they are FULL", x.jumpers(3, 0, 7), 4);
         DUE.is("seven of them", x.count(0), 7);

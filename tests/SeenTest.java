@@ -68,6 +68,9 @@ public final class SeenTest {
         DUE.is("none seen: the least", x.fromWhere(1, 5), -999);
         Due.seen(x, 1, 7, 107, 197, 207);
         DUE.is("one too much", x.fromWhere(1, 5), Due.NONE);
+        Due.order(x, 5, 2, 0);
+        Due.seen(x, 4, 100, 60);
+        DUE.is("shelves 5 and 4", x.fromWhere(54, 5), 10);
         Due.seen(x, 1, 57, 7);
         Due.order(x, 0, 1, 0);
         x.mend(0, 11, 1);

@@ -120,6 +120,14 @@ public final class ShelvesTest {
         DUE.is("none", x.shift(0, 4, 1, 3, 0), 0);
         DUE.is("all of one", x.shift(1, 0, 0, 1, 3), 3);
         rowIs("here", x, 0, 1, 2, 3, 4);
+        x.row(4, 3, 60);
+        x.row(5, 3, 60);
+        x.put(4, 0, 8);
+        x.put(4, 59, 9);
+        DUE.is("sixty of sixty", x.shift(4, 0, 5, 0, 60), 60);
+        DUE.is("the first of them", x.element(5, 0), 8);
+        DUE.is("the last of them", x.element(5, 59), 9);
+        DUE.is("sixty of sixty, one on", x.shift(4, 0, 5, 1, 60), -13);
         for (int sort = 0; sort <= 4; sort++) {
             Due.row(x, 2, sort, 1, 0, 1);
             Due.row(x, 3, sort, 0, 0, 0);
