@@ -17,17 +17,6 @@ public final class DeedTest {
         DUE.end();
     }
 
-    /** Carried by ten times a skill of 0, 5, 9; ten yards a second. */
-    private static OutByTurns three() {
-        OutByTurns x = new OutByTurns();
-        x.jumper(5, 0);
-        x.jumper(5, 5);
-        x.jumper(5, 9);
-        Due.law(x, "s*10");
-        x.mend(0, 7, 10);
-        return x;
-    }
-
     private static void led(String what, OutByTurns x, int... due) {
         for (int i = 0; i < due.length; i++) {
             DUE.is(what + ", led(" + i + ")", x.led(i), due[i]);
@@ -35,7 +24,7 @@ public final class DeedTest {
     }
 
     private static void begin() {
-        OutByTurns x = three();
+        OutByTurns x = Due.three();
         DUE.is("begin(-1000)", x.begin(-1000), Due.NONE);
         DUE.is("begin(1000)", x.begin(1000), Due.NONE);
         DUE.is("no drop by these", x.led(5), Due.NONE);
@@ -47,7 +36,7 @@ public final class DeedTest {
     }
 
     private static void go() {
-        OutByTurns x = three();
+        OutByTurns x = Due.three();
         DUE.is("no drop is on", x.go(0, 0), Due.NONE);
         x.begin(100);
         DUE.is("at once", x.go(1, 0), 150);
@@ -71,7 +60,7 @@ public final class DeedTest {
     }
 
     private static void against() {
-        OutByTurns x = three();
+        OutByTurns x = Due.three();
         x.mend(0, 11, 1);
         x.begin(50);
         DUE.is("against", x.go(0, 4), 10);
@@ -85,7 +74,7 @@ public final class DeedTest {
     }
 
     private static void whoMeets() {
-        OutByTurns x = three();
+        OutByTurns x = Due.three();
         x.begin(0);
         x.go(2, 20);
         x.go(1, 4);
@@ -116,7 +105,7 @@ public final class DeedTest {
     }
 
     private static void over() {
-        OutByTurns x = three();
+        OutByTurns x = Due.three();
         DUE.is("no drop is on", x.over(), OutByTurns.STATE);
         x.begin(0);
         DUE.is("nobody went", x.over(), 0);
@@ -139,7 +128,7 @@ public final class DeedTest {
     }
 
     private static void ledAtFirst() {
-        OutByTurns x = three();
+        OutByTurns x = Due.three();
         led("at first", x, 0, 0, 0, 0, OutByTurns.NOT, Due.NONE);
         DUE.is("led(-1)", x.led(-1), Due.NONE);
         DUE.is("led(6)", x.led(6), Due.NONE);
@@ -148,7 +137,7 @@ public final class DeedTest {
     }
 
     private static void farthest() {
-        OutByTurns x = three();
+        OutByTurns x = Due.three();
         x.begin(100);
         x.go(0, 0);
         led("in the middle of -99 and 300", x, 0, 1, 0, 0, 0, 100);
@@ -169,7 +158,7 @@ public final class DeedTest {
     }
 
     private static void now() {
-        OutByTurns x = three();
+        OutByTurns x = Due.three();
         x.begin(-10);
         DUE.is("where it begins", x.led(5), -10);
         x.go(0, 7);
@@ -183,7 +172,7 @@ public final class DeedTest {
     }
 
     private static void image() {
-        OutByTurns x = three();
+        OutByTurns x = Due.three();
         DUE.is("no image", x.back(), OutByTurns.STATE);
         x.begin(0);
         x.over();
@@ -209,7 +198,7 @@ public final class DeedTest {
     }
 
     private static void imageOfWhoMeets() {
-        OutByTurns x = three();
+        OutByTurns x = Due.three();
         x.begin(0);
         x.go(2, 5);
         x.image();
@@ -236,7 +225,7 @@ public final class DeedTest {
     }
 
     private static void imageOfEarlier() {
-        OutByTurns x = three();
+        OutByTurns x = Due.three();
         DUE.is("image() at first", x.image(), 0);
         x.begin(0);
         x.go(2, 4);

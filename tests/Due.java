@@ -73,6 +73,17 @@ final class Due {
         is(call + ", of another sort", byShelf.applyAsLong(sort == 0 ? 4 : 5), unlike);
     }
 
+    /** Carried by ten times a skill of 0, 5, 9; ten yards a second. */
+    static OutByTurns three() {
+        OutByTurns x = new OutByTurns();
+        x.jumper(5, 0);
+        x.jumper(5, 5);
+        x.jumper(5, 9);
+        law(x, "s*10");
+        x.mend(0, 7, 10);
+        return x;
+    }
+
     static int yc(int spot, int count) {
         return 100 * (spot + 999) + count;
     }

@@ -12,14 +12,8 @@ public final class SeenTest {
         DUE.end();
     }
 
-    /** Skills 0, 5, 9 and carried by ten times them; ten yards a second; 0 1 2 on shelf 0. */
     private static OutByTurns three() {
-        OutByTurns x = new OutByTurns();
-        x.jumper(5, 0);
-        x.jumper(5, 5);
-        x.jumper(5, 9);
-        Due.law(x, "s*10");
-        x.mend(0, 7, 10);
+        OutByTurns x = Due.three();
         Due.order(x, 0, 0, 1, 2);
         return x;
     }

@@ -227,7 +227,7 @@ public final class OutByTurns {
         }
     }
 
-    /** The first of the ORDER go, and each whose bit is set in stops keeps itself and all behind it so many seconds. */
+    /** One who stops makes all behind it late, too; stops has a bit for each who does. */
     private int goodIfStopped(int many, int stops, int seconds, int yc) {
         jumps.clear();
         int late = 0;
@@ -326,7 +326,7 @@ public final class OutByTurns {
         weighAll();
         int most = -1;
         int best = 0;
-        int codes = power(there, there);
+        int codes = Order.power(there, there);
         for (int code = 0; code < codes; code++) {
             if (order.spell(code, there, there)) {
                 lineUp(countOf(yc), way());
@@ -342,14 +342,6 @@ public final class OutByTurns {
         }
         order.spell(best, there, there);
         return order.at(k);
-    }
-
-    private static int power(int base, int times) {
-        int all = 1;
-        for (int i = 0; i < times; i++) {
-            all *= base;
-        }
-        return all;
     }
 
     public int pass(int shelf, int count, int what) {
@@ -495,7 +487,7 @@ public final class OutByTurns {
         for (int k = 0; k < order.size(); k++) {
             above *= TWELVE - sticksOf(k);
         }
-        return lowest(above, power(TWELVE, order.size()), part);
+        return lowest(above, Order.power(TWELVE, order.size()), part);
     }
 
     public long mean(int shelf, int yc, int n, int part) {
@@ -510,10 +502,10 @@ public final class OutByTurns {
                 above += likely * goodIfStopped(many, stops, n, yc);
             }
         }
-        return lowest(above, power(TWELVE, many), part);
+        return lowest(above, Order.power(TWELVE, many), part);
     }
 
-    /** How likely just those stop whose bits are set, in twelfths of twelfths, once for each of the first of the ORDER. */
+    /** Above a line that is 12 to the power of how many go: so all ways to stop add up without fractions. */
     private long twelfths(int many, int stops) {
         long likely = 1;
         for (int k = 0; k < many; k++) {
@@ -610,7 +602,7 @@ public final class OutByTurns {
         weighAll();
         int there = numbers.jumpersThere();
         int many = Math.min(MOST_IN_WHICH, shelves.size(shelf));
-        int codes = power(there, many);
+        int codes = Order.power(there, many);
         int orders = 0;
         int first = NOT;
         for (int code = 0; code < codes; code++) {
@@ -676,7 +668,7 @@ public final class OutByTurns {
     public int image() {
         picture.become(deed);
         pictured = true;
-        return picture.drops;
+        return picture.drops();
     }
 
     public int back() {
@@ -684,7 +676,7 @@ public final class OutByTurns {
             return STATE;
         }
         deed.become(picture);
-        return deed.drops;
+        return deed.drops();
     }
 
     public int undo() {
@@ -1132,7 +1124,7 @@ public final class OutByTurns {
         private final long[] cells = new long[SHELVES * ELEMENTS];
 
         boolean isThere(int shelf) {
-            return shelf >= 0 && shelf < SHELVES;
+            return shelf >= 0 && shelf < SHELVES && shelf < held.length;
         }
 
         int holds(int shelf) {
@@ -1264,6 +1256,14 @@ public final class OutByTurns {
                 worth /= there;
             }
             return true;
+        }
+
+        static int power(int base, int times) {
+            int all = 1;
+            for (int i = 0; i < times; i++) {
+                all *= base;
+            }
+            return all;
         }
 
         int asDigits() {
@@ -1398,6 +1398,10 @@ public final class OutByTurns {
             good = other.good;
             farthest = other.farthest;
             who = other.who;
+        }
+
+        int drops() {
+            return drops;
         }
 
         int start(int spot, int runIn) {
