@@ -6,6 +6,7 @@ public final class DeedTest {
         begin();
         go();
         against();
+        turnsOnTheWay();
         whoMeets();
         over();
         ledAtFirst();
@@ -67,10 +68,53 @@ public final class DeedTest {
         DUE.is("farther against", x.go(1, 5), 10 - 50 + 50);
         DUE.is("now", x.led(5), -40);
         x.mend(0, 11, 0);
-        DUE.is("run in as it was at the beginning", x.go(2, 1), -50 + 90);
+        DUE.is("upward again, run in as it is", x.go(2, 1), -30 + 90);
+        DUE.is("now, upward again", x.led(5), -30);
         x.over();
         x.begin(50);
         DUE.is("upward the next time", x.go(0, 4), 90);
+    }
+
+    private static void turnsOnTheWay() {
+        OutByTurns x = Due.three();
+        x.begin(0);
+        x.mend(0, 11, 1);
+        DUE.is("nobody went: still at the SPOT", x.led(5), 0);
+        DUE.is("against from the first on", x.go(0, 3), -30);
+        x.undo();
+        DUE.is("UNDONE: upward from where it is", x.go(1, 1), -20 + 50);
+        x.redo();
+        DUE.is("DONE AGAIN: downward from where it is", x.go(2, 5), -70 + 90);
+        // -30, 30, 20: 10 yards between the last two, 5 seconds too.
+        DUE.is("seconds go on whichever way it flies", x.over(), 3);
+        x.mend(0, 11, 0);
+        x.begin(0);
+        x.go(2, 0);
+        x.mend(0, 11, 1);
+        x.go(1, 4);
+        x.mend(0, 11, 0);
+        x.go(0, 1);
+        // 90, 10, -30: none near another.
+        DUE.is("none meets", x.over(), 3);
+        x.begin(0);
+        x.go(1, 0);
+        x.mend(0, 11, 1);
+        x.mend(0, 7, 1);
+        x.go(2, 1);
+        x.mend(0, 7, 36);
+        x.mend(0, 11, 0);
+        x.go(0, 2);
+        // 50, 89, 71; then the same with 50, 89, 49.
+        DUE.is("there and back, none near", x.over(), 3);
+        x.begin(0);
+        x.go(1, 0);
+        x.mend(0, 11, 1);
+        x.mend(0, 7, 1);
+        x.go(2, 1);
+        x.mend(0, 7, 25);
+        x.mend(0, 11, 0);
+        x.go(0, 2);
+        DUE.is("there and back, the first and the last meet", x.over(), 1);
     }
 
     private static void whoMeets() {
@@ -188,9 +232,9 @@ public final class DeedTest {
         DUE.is("back()", x.back(), 1);
         led("as it was", x, 1, 2, 0, 10, 1, 60);
         DUE.is("who went has gone", x.go(1, 0), Due.NONE);
-        DUE.is("who had not may go, run in as it was", x.go(2, 2), 40 + 90);
+        DUE.is("who had not may go, run in as it is", x.go(2, 2), 80 + 90);
         DUE.is("those ahead met by 4 seconds and 10 yards", x.over(), 1);
-        led("over", x, 2, 3, 1, 30, 2, Due.NONE);
+        led("over", x, 2, 3, 1, 70, 2, Due.NONE);
         DUE.is("back() again", x.back(), 1);
         led("as it was again", x, 1, 2, 0, 10, 1, 60);
         DUE.is("RUN IN is none of it", x.of(0, 11), 0);

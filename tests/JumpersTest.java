@@ -67,6 +67,12 @@ public final class JumpersTest {
         DUE.is("behind the row's end", x.jumpers(2, 12, 1), 0);
         DUE.is("far behind it", x.jumpers(2, Integer.MAX_VALUE, 7), 0);
         DUE.is("all three", x.count(0), 3);
+        int[] belowZero = {-1, -2, -3, -6, Integer.MIN_VALUE};
+        for (int place : belowZero) {
+            DUE.is("from place " + place + " on", x.jumpers(2, place, 7), 0);
+            DUE.is("from place " + place + " of a missing row", x.jumpers(1, place, 7), 0);
+        }
+        DUE.is("nobody came from below the row", x.count(0), 3);
         OutByTurns y = new OutByTurns();
         Due.order(y, 0, 1, 2, 0, 3, 4, 1);
         DUE.is("the row ends behind a three", y.jumpers(0, 0, 7), 2);
@@ -86,10 +92,11 @@ public final class JumpersTest {
         DUE.is("jumpers(6, 0, 1)", x.jumpers(6, 0, 1), OutByTurns.BAD);
         DUE.is("jumpers(0, 0, 0)", x.jumpers(0, 0, 0), OutByTurns.BAD);
         DUE.is("jumpers(0, 0, 8)", x.jumpers(0, 0, 8), OutByTurns.BAD);
-        DUE.is("jumpers(0, -1, 1)", x.jumpers(0, -1, 1), OutByTurns.BAD);
+        DUE.is("jumpers(0, -1, 8)", x.jumpers(0, -1, 8), OutByTurns.BAD);
         for (int sort = 1; sort <= 4; sort++) {
             x.row(0, sort, 6);
             DUE.is("a row of sort " + sort, x.jumpers(0, 0, 1), -12);
+            DUE.is("a row of sort " + sort + ", below it", x.jumpers(0, -1, 1), -12);
         }
         x.body(0);
         x.keep(0, 0);

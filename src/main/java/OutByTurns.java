@@ -72,7 +72,7 @@ public final class OutByTurns {
     }
 
     public int jumpers(int shelf, int i, int n) {
-        if (!shelves.isThere(shelf) || i < 0 || n < 1 || n > MOST_JUMPERS) {
+        if (!shelves.isThere(shelf) || n < 1 || n > MOST_JUMPERS) {
             return BAD;
         }
         int held = shelves.holds(shelf);
@@ -87,7 +87,7 @@ public final class OutByTurns {
     }
 
     private boolean comesFromRow(int shelf, int place) {
-        if (place > shelves.size(shelf) - 3) {
+        if (place < 0 || place > shelves.size(shelf) - 3) {
             return false;
         }
         int weight = (int) shelves.cell(shelf, place);
@@ -647,14 +647,14 @@ public final class OutByTurns {
     // ---- in deed
 
     public int begin(int spot) {
-        return isYard(spot) ? deed.start(spot, way()) : VOID;
+        return isYard(spot) ? deed.start(spot) : VOID;
     }
 
     public int go(int jumper, int n) {
         if (n < 0 || n > MOST_SECONDS || !numbers.isJumper(jumper) || !deed.mayGo(jumper)) {
             return VOID;
         }
-        return deed.sendOut(jumper, n, yardsCarried(jumper));
+        return deed.sendOut(jumper, n, ahead(n, way()), yardsCarried(jumper));
     }
 
     public int over() {
@@ -1369,7 +1369,6 @@ public final class OutByTurns {
         private final Jumps jumps;
         private final boolean[] gone = new boolean[MOST_JUMPERS];
         private boolean on;
-        private int way;
         private int now;
         private int seconds;
         private int drops;
@@ -1390,7 +1389,6 @@ public final class OutByTurns {
             jumps.become(other.jumps);
             System.arraycopy(other.gone, 0, gone, 0, MOST_JUMPERS);
             on = other.on;
-            way = other.way;
             now = other.now;
             seconds = other.seconds;
             drops = other.drops;
@@ -1404,12 +1402,11 @@ public final class OutByTurns {
             return drops;
         }
 
-        int start(int spot, int runIn) {
+        int start(int spot) {
             if (on) {
                 return VOID;
             }
             on = true;
-            way = runIn;
             now = spot;
             seconds = 0;
             jumps.clear();
@@ -1423,12 +1420,11 @@ public final class OutByTurns {
             return on && jumper >= 0 && jumper < gone.length && !gone[jumper];
         }
 
-        int sendOut(int jumper, int n, int carried) {
+        int sendOut(int jumper, int n, int ahead, int carried) {
             if (!mayGo(jumper)) {
                 return VOID;
             }
-            int yards = numbers.told(0, SPEED) * n;
-            now += way == 0 ? yards : -yards;
+            now += ahead;
             seconds += n;
             gone[jumper] = true;
             jumped++;
