@@ -84,6 +84,24 @@ final class Due {
         return x;
     }
 
+    /** So many who come down where they go out, ten yards a second, all in an order; the field from FROM to TO. */
+    static OutByTurns on(int from, int to, int many) {
+        OutByTurns x = new OutByTurns();
+        for (int number = 0; number < many; number++) {
+            x.jumper(5, number);
+        }
+        law(x, "0");
+        x.mend(0, 7, 10);
+        x.mend(0, 4, -999);
+        x.mend(0, 5, to);
+        x.mend(0, 4, from);
+        x.row(0, 0, many);
+        for (int number = 0; number < many; number++) {
+            x.put(0, number, number);
+        }
+        return x;
+    }
+
     static int yc(int spot, int count) {
         return 100 * (spot + 999) + count;
     }
