@@ -16,6 +16,7 @@ final class BoundsOfDeeds {
         bounds.image();
         bounds.changes();
         bounds.forty();
+        bounds.fortyOfSeveral();
         bounds.doneAgain();
     }
 
@@ -158,6 +159,10 @@ final class BoundsOfDeeds {
         x.over();
         says.is("back()", x.back(), 1);
         ledIs("as it was", x, 1, 1, 0, 30, 1, 20);
+        x.over();
+        x.begin(-500);
+        x.go(2, 20);
+        says.is("back() from another drop", x.back(), 1);
         says.is("who had gone has", x.go(1, 0), OutByTurns.VOID);
         says.is("who had not has not: 10 yards, 4 seconds", x.go(0, 4), 60);
         says.is("they MEET", x.over(), 0);
@@ -232,6 +237,43 @@ final class BoundsOfDeeds {
         }
         says.is("no more again", x.redo(), OutByTurns.STATE);
         says.is("as at last", x.of(0, 5), 342);
+    }
+
+    private void fortyOfSeveral() {
+        OutByTurns x = new OutByTurns();
+        x.jumper(5, 3);
+        x.jumper(5, 3);
+        says.part(4, "40 at most are kept");
+        x.mend(0, 8, 1);
+        for (int v = 1; v <= 10; v++) {
+            x.mend(1, 3, v);
+            x.mend(0, 9, v);
+            x.mend(0, 1, v % 2);
+            x.mend(0, 10, v % 2 + 1);
+        }
+        says.is("of 41", x.count(2), 40);
+        for (int v = 10; v >= 1; v--) {
+            x.undo();
+            says.is("HEIGHT", x.of(0, 10), v == 1 ? 9 : (v - 1) % 2 + 1);
+            x.undo();
+            says.is("SKILL of the first", x.of(0, 1), v == 1 ? 3 : (v - 1) % 2);
+            x.undo();
+            says.is("BELOW", x.of(0, 9), v - 1);
+            x.undo();
+            says.is("STICKS of the second", x.of(1, 3), v - 1);
+        }
+        says.is("the first of them is not kept", x.undo(), OutByTurns.STATE);
+        says.is("ABOVE", x.of(0, 8), 1);
+        for (int v = 1; v <= 10; v++) {
+            x.redo();
+            says.is("STICKS of the second again", x.of(1, 3), v);
+            x.redo();
+            says.is("BELOW again", x.of(0, 9), v);
+            x.redo();
+            says.is("SKILL of the first again", x.of(0, 1), v % 2);
+            x.redo();
+            says.is("HEIGHT again", x.of(0, 10), v % 2 + 1);
+        }
     }
 
     private void doneAgain() {

@@ -211,10 +211,17 @@ final class BoundsOfJumpers {
         says.is("STICKS of the first", x.of(0, 3), 0);
         Due.row(x, 0, 0, 9, 9, 0, 1, 0, 1, 5, 3, 2, 5, 3, 0);
         says.is("the third one's SQUARE is not so", x.jumpers(0, 0, 4), 2);
-        says.is("4 came", x.count(0), 4);
+        Due.row(x, 0, 0, 2, 2, 0);
+        says.is("it ends behind a three", x.jumpers(0, 0, 7), 1);
+        says.is("5 came", x.count(0), 5);
+        long[][] notSo = {{0, 3, 0}, {10, 3, 0}, {5, -1, 0}, {5, 10, 0}, {5, 3, -1}, {5, 3, 2}};
+        for (long[] three : notSo) {
+            Due.row(x, 0, 0, three);
+            says.is("one is not so", x.jumpers(0, 0, 7), 0);
+        }
         Due.row(x, 0, 0, 5, 3, 0, 6, 3, 0, 7, 3, 0, 8, 3, 0);
-        says.is("FULL behind three more", x.jumpers(0, 0, 4), 3);
-        says.is("the last that came", x.of(6, 0), 7);
+        says.is("FULL behind two more", x.jumpers(0, 0, 4), 2);
+        says.is("the last that came", x.of(6, 0), 6);
         says.is("FULL already", x.jumpers(0, 0, 4), 0);
         says.is("7 came", x.count(0), 7);
     }

@@ -39,6 +39,7 @@ final class BoundsOfSeen {
         says.is("the 0th for 21 seconds", x.sticks(0, YC, 21, 0), OutByTurns.BAD);
         says.is("the last for 20 seconds: 0, 50, 300", x.sticks(0, YC, 220, 0), 2);
         says.is("the last for 21 seconds", x.sticks(0, YC, 221, 0), OutByTurns.BAD);
+        says.is("the last for 1 second on a longer field", Due.on(-99, 120, 3).sticks(0, YC, 201, 0), 3);
         says.is("by 1 they MEET", x.drop(0, Due.yc(0, 1), 2), 0);
         says.is("the last far behind: the others MEET", x.sticks(0, Due.yc(0, 1), 205, 0), 1);
     }
@@ -68,6 +69,8 @@ final class BoundsOfSeen {
         says.is("kn 99", x.sticks(0, YC, 99, 0), OutByTurns.BAD);
         says.is("kn 100", x.sticks(0, YC, 100, 0), OutByTurns.BAD);
         says.is("kn 101", x.sticks(0, YC, 101, 0), 3);
+        says.is("COUNT 0", x.sticks(0, Due.yc(0, 0), 1, 0), OutByTurns.BAD);
+        says.is("SPOT 1000", x.sticks(0, Due.yc(1000, 5), 1, 0), OutByTurns.BAD);
         says.is("what -1", x.sticks(0, YC, 1, -1), OutByTurns.BAD);
         says.is("what 2", x.sticks(0, YC, 1, 2), OutByTurns.BAD);
         says.promise(18, "BAD, -11, -12; BAD behind these: no such k.");
@@ -129,6 +132,10 @@ final class BoundsOfSeen {
         x.mend(1, 3, 4);
         // 6 and 4 of 12: both 30, 110, 160; the first 30, 80, 130; the second 0, 80, 130; neither 0, 50, 100.
         meanIs("two of them", x, 3, 2 * 2 + 3, 3);
+        for (int number = 0; number < 3; number++) {
+            x.mend(number, 3, 6);
+        }
+        meanIs("all of them: 3 if none stops, 2 if any does", x, 3, 7 * 2 + 3, 8);
         x.mend(0, 3, 12);
         x.mend(1, 3, 12);
         meanIs("both always, for 20 seconds", x, 20, 0, 1);
@@ -268,6 +275,11 @@ final class BoundsOfSeen {
         says.is("one too much", x.fromWhere(1, 5), OutByTurns.VOID);
         Due.seen(x, 1);
         says.is("none SEEN", x.fromWhere(1, 5), -999);
+        Due.order(x, 5, 1, 0);
+        Due.seen(x, 4, 50, 51);
+        says.is("the second is never so", x.fromWhere(54, 5), OutByTurns.VOID);
+        x.put(4, 1, 50);
+        says.is("both on one yard", x.fromWhere(54, 5), 0);
         says.promise(24, "FROM WHERE. VOID: BAD, or not such ROWS, too.");
         says.is("COUNT 0", x.fromWhere(1, 0), OutByTurns.VOID);
         says.is("COUNT 1", x.fromWhere(1, 1), -999);
