@@ -1101,13 +1101,10 @@ public final class OutByTurns {
 
         private int number() {
             int value = 0;
-            for (int digits = 0; digits < MOST_DIGITS; digits++) {
-                int letter = next();
-                if (letter < '0' || letter > '9') {
-                    break;
-                }
-                value = value * 10 + letter - '0';
-                place++;
+            int end = Math.min(Math.min(size, MOST), place + MOST_DIGITS);
+            for (int i = Math.max(0, place); i < end && bytes[i] >= '0' && bytes[i] <= '9'; i++) {
+                value = value * 10 + bytes[i] - '0';
+                place = i + 1;
             }
             return value;
         }
